@@ -1323,28 +1323,46 @@ public final class PackedCase {
             return asked;
         }
 
-        /** The kinds lie three deep at most, and so does the recursion. */
         int ask(int kind, int i, int state) {
             switch (kind) {
-                case ONCE:
-                    asked += 10;
-                    return ask(THING, i, state) + trip.fact(i, FINE);
-                case SPARE:
-                    asked += 100;
-                    return ask(THING, i, state) - trip.fact(i, WEIGHT);
-                case DOUBLE:
-                    asked += 1000;
-                    return ask(ONCE, i, state) * 2;
-                case BOUGHT:
-                    asked += 10000;
-                    return ask(SPARE, i, state) + trip.fact(i, PRICE);
-                case SINGLE:
-                    asked += 100000;
-                    return ask(THING, i, state) + state;
-                default:
-                    asked += 1;
-                    return trip.fact(i, WARM);
+                case THING: return asThing(i);
+                case ONCE: return asOnce(i);
+                case SPARE: return asSpare(i);
+                case DOUBLE: return asDouble(i);
+                case BOUGHT: return asBought(i);
+                case SINGLE: return asSingle(i, state);
+                default: return NO;
             }
+        }
+
+        private int asThing(int i) {
+            asked += 1;
+            return trip.fact(i, WARM);
+        }
+
+        private int asOnce(int i) {
+            asked += 10;
+            return asThing(i) + trip.fact(i, FINE);
+        }
+
+        private int asSpare(int i) {
+            asked += 100;
+            return asThing(i) - trip.fact(i, WEIGHT);
+        }
+
+        private int asDouble(int i) {
+            asked += 1000;
+            return asOnce(i) * 2;
+        }
+
+        private int asBought(int i) {
+            asked += 10000;
+            return asSpare(i) + trip.fact(i, PRICE);
+        }
+
+        private int asSingle(int i, int state) {
+            asked += 100000;
+            return asThing(i) + state;
         }
     }
 }

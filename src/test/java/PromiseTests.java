@@ -167,6 +167,12 @@ public final class PromiseTests {
         fault("day 0,0;", 5);
         fault("days 0 0;", 0);
         fault("da y 0 0;", 0);
+        fault("dayz 0 0;", 0);
+        fault("aday 0 0;", 0);
+        fault("day" + (char) 123 + "0 0;", 3);
+        fault("day" + (char) 96 + "0 0;", 3);
+        fault("day 0" + (char) 58 + "0;", 5);
+        fault("day 0" + (char) 47 + "0;", 5);
         fault("Day 0 0;", 0);
         fault("da" + (char) 200 + ";", 0);
         fault("day" + (char) 10 + "0 0;", 3);
@@ -384,6 +390,9 @@ public final class PromiseTests {
         due("days that there are not", x.serves(3, 4), 1);
         due("no bottom", x.serves(1, 0), 0);
         due("none", x.serves(0, 0), 0);
+        x = of("top 0 0 1 1 0 1;".repeat(3) + "bottom 0 0 1 1 0 1;".repeat(3) + "day 0 0;".repeat(3));
+        due("each thing once", x.serves(63, 0), 1);
+        planned(x, 63, 0, "030" + "140" + "250");
         // Rain makes fresh again what was worn once, and a coat keeps it from that.
         x = of("top 0 0 1 1 0 2;bottom 0 0 1 1 0 2;top 0 0 1 1 0 1;bottom 0 0 1 1 0 1;coat 0 0 1 1 0;"
             + "day 0 0;day 0 0;day 0 0;day 0 0;");
@@ -428,6 +437,9 @@ public final class PromiseTests {
         x = of(wet + "day 0 0 rain 1;day 0 0 rain 2;day 0 0 rain 3;day 0 0 rain 4;");
         due("odds of four wet days", x.odds(15), 10000);
         due("odds of one pair", x.odds(3), 0);
+        String once = "top 0 0 1 1 0 1;bottom 0 0 1 1 0 1;";
+        x = of(once + "day 0 0 wash rain 1;day 0 0 wash rain 1;day 0 0 wash rain 1;day 0 0 wash rain 1;");
+        due("odds, one of 10000 added", x.odds(3), 10000);
     }
 
     private static void promise15() {
@@ -494,6 +506,10 @@ public final class PromiseTests {
         due("desk 250 of 140 in rain", x.desk(31, 1), 3);
         due("desk does not serve", x.desk(1, 0), NONE);
         due("desk of what there is not", x.desk(3 + 32, 0), 0);
+        PackedCase y = of("coat 0 0 1 99 0;".repeat(6));
+        due("desk takes some", y.desk(63, 0), 15);
+        y.tune(0, 0);
+        due("desk takes all", y.desk(63, 0), 63);
         x.tune(0, 109);
         due("desk 110 of 109", x.desk(3, 0), NONE);
         x.tune(0, 110);
