@@ -1,61 +1,5 @@
 /** For each promise of the document ordinary calls, the edges it names, and wrong ones. */
-public final class PromiseTests {
-    private static final int BAD = PackedCase.BAD, STATE = PackedCase.STATE, FULL = PackedCase.FULL;
-    private static final int NONE = PackedCase.NONE, NO = PackedCase.NO;
-    private static int wrong = 0;
-    private static int asked = 0;
-
-    private static void due(String what, long got, long want) {
-        asked++;
-        if (got != want) {
-            wrong++;
-            System.out.println(what + " answered " + got + ", due is " + want);
-        }
-    }
-
-    private static void type(PackedCase x, String text) {
-        for (int k = 0; k < text.length(); k++) {
-            x.type(text.charAt(k), 1);
-        }
-    }
-
-    private static PackedCase of(String text) {
-        PackedCase x = new PackedCase();
-        type(x, text);
-        int items = x.journey();
-        if (items < 0) {
-            wrong++;
-            System.out.println("a test's own journey is faulty: " + text + ": " + items);
-        }
-        return x;
-    }
-
-    private static void fault(String text, int place) {
-        PackedCase x = new PackedCase();
-        type(x, text);
-        due("journey of '" + text + "'", x.journey(), -10 - place);
-        due("bytes kept of '" + text + "'", x.count(3), text.length());
-        due("things after '" + text + "'", x.count(0), 0);
-        due("days after '" + text + "'", x.count(1), 0);
-    }
-
-    private static void items(String text, int items) {
-        PackedCase x = new PackedCase();
-        type(x, text);
-        due("journey of '" + text + "'", x.journey(), items);
-        due("bytes left of '" + text + "'", x.count(3), 0);
-    }
-
-    /** What the first plan has on each day: top, bottom, washing, three digits a day. */
-    private static void planned(PackedCase x, int set, int weather, String plan) {
-        for (int d = 0; 3 * d < plan.length(); d++) {
-            for (int what = 0; what < 3; what++) {
-                due("plan(" + set + ", " + weather + ", " + d + ", " + what + ")",
-                    x.plan(set, weather, d, what), plan.charAt(3 * d + what) - '0');
-            }
-        }
-    }
-
+public final class PromiseTests extends Checks {
     private static void promise1() {
         PackedCase x = new PackedCase();
         for (int what = 0; what < 6; what++) {
@@ -746,9 +690,6 @@ public final class PromiseTests {
         promises25And26();
         promise27();
         promise28();
-        System.out.println("promises: " + asked + " answers, " + wrong + " wrong");
-        if (wrong != 0) {
-            System.exit(1);
-        }
+        end("promises");
     }
 }
