@@ -553,7 +553,7 @@ public final class PackedCase {
         // A number's code is this and the number.
         private static final int NUMBER = 100;
         private static final int MOST_NUMBER = 99, MOST_UNSURE_DAYS = 4, FIRST_FAULT = -10;
-        private static final int MOST_TOKENS = Text.MOST + 1;
+        private static final int MOST_TOKENS = Text.MOST;
         private final Text text;
         private final Trip trip;
         private final int[] codes = new int[MOST_TOKENS];
@@ -592,7 +592,6 @@ public final class PackedCase {
                 }
                 place = end;
             }
-            addToken(END, place);
         }
 
         private void addToken(int code, int start) {
@@ -791,6 +790,7 @@ public final class PackedCase {
             return codeOfNext() == code;
         }
 
+        /** END behind the last token. */
         private int codeOfNext() {
             return next >= 0 && next < MOST_TOKENS && next < tokens ? codes[next] : END;
         }

@@ -622,6 +622,29 @@ public final class ModelTests {
         return s.length() > 500 ? s.substring(0, 500) : s.toString();
     }
 
+    /** A journey of up to eight days, hard enough that many plans come to nothing. */
+    private static String longJourney(Random r) {
+        StringBuilder s = new StringBuilder();
+        int things = 4 + r.nextInt(3);
+        int coats = r.nextInt(3);
+        for (int i = 0; i < things; i++) {
+            boolean coat = r.nextInt(8) < coats;
+            s.append(coat ? "coat " : r.nextBoolean() ? "top " : "bottom ");
+            s.append(r.nextInt(4)).append(' ').append(r.nextInt(3)).append(" 1 1 0");
+            s.append(coat ? ";" : " " + (1 + Math.min(r.nextInt(3), 1)) + (r.nextInt(3) == 0 ? " late;" : ";"));
+        }
+        int hardness = 2 + r.nextInt(4);
+        for (int d = 3 + r.nextInt(6); d > 0; d--) {
+            s.append("day ").append(r.nextInt(hardness)).append(' ').append(Math.max(0, r.nextInt(5) - 2));
+            s.append(r.nextInt(4) == 0 ? " wash;" : ";");
+        }
+        for (int k = r.nextInt(3); k > 0; k--) {
+            int a = r.nextInt(things);
+            s.append("apart ").append(a).append(' ').append((a + 1 + r.nextInt(things - 1)) % things).append(';');
+        }
+        return s.toString();
+    }
+
     private static String gap(Random r, int manner) {
         return manner == 2 && r.nextInt(3) == 0 ? "" : " ";
     }
@@ -750,6 +773,30 @@ public final class ModelTests {
         }
     }
 
+    /** Plans and AGAIN alone, on journeys that are long: all can be in many ways then. */
+    private static void longJourneys(int runs) {
+        for (int run = 0; run < runs; run++) {
+            Random r = new Random(run);
+            PackedCase x = new PackedCase();
+            Model y = new Model();
+            String text = longJourney(r);
+            typeBoth(run, r, x, y, text);
+            due(run, "journey of " + text, x.journey(), y.journey());
+            for (int k = 0; k < 5; k++) {
+                int set = k == 0 ? y.all() : r.nextInt(64) | r.nextInt(64);
+                int weather = r.nextInt(256);
+                String all = "(" + set + ", " + weather + ") of " + text;
+                due(run, "again" + all, x.again(set), y.again(set));
+                List<int[]> plan = y.first(set, weather);
+                due(run, "serves" + all, x.serves(set, weather), plan == null ? 0 : 1);
+                for (int part = 0; plan != null && part < 3 * plan.size(); part++) {
+                    int d = part / 3;
+                    due(run, "plan" + all, x.plan(set, weather, d, part % 3), plan.get(d)[part % 3]);
+                }
+            }
+        }
+    }
+
     /** Faults alone, many of them. */
     private static void faults() {
         for (int seed = 0; seed < 20000; seed++) {
@@ -770,6 +817,7 @@ public final class ModelTests {
             run(run);
         }
         faults();
+        longJourneys(2 * runs);
         System.out.println("model: " + runs + " runs, " + wrong + " answers are not the model's");
         if (wrong != 0) {
             System.exit(1);
